@@ -1247,9 +1247,11 @@ public final class AdjustmentStack {
 
         private void gatherNeighbours(Picture input, int x, int y, int radius) {
             neighbourCount = 0;
-            for (int row = y - radius; row <= y + radius; row++) {
-                for (int column = x - radius; column <= x + radius; column++) {
-                    if (input.contains(column, row) && neighbourCount < neighbours.length) {
+            int right = Math.min(x + radius, input.width - 1);
+            int bottom = Math.min(y + radius, input.height - 1);
+            for (int row = Math.max(0, y - radius); row <= bottom; row++) {
+                for (int column = Math.max(0, x - radius); column <= right; column++) {
+                    if (neighbourCount < neighbours.length) {
                         neighbours[neighbourCount] = input.at(column, row);
                         neighbourCount++;
                     }

@@ -12,6 +12,7 @@ final class ImageTest {
         setPixel();
         removedTilesAfterSetPixel();
         reachesAddUp();
+        removedTilesAtTheEdges();
         fillRectangle();
         removedTilesAfterFillRectangle();
         size();
@@ -142,6 +143,28 @@ final class ImageTest {
         Check.due("the tile (4, 2) of layer 1 stays", x.isCached(1, 4, 2), 1);
         Check.due("the tile (1, 2) of layer 1 goes", x.isCached(1, 1, 2), 0);
         Check.due("no tile is dropped", x.counter(2), 0);
+    }
+
+    private static void removedTilesAtTheEdges() {
+        AdjustmentStack x = new AdjustmentStack();
+        x.newImage(9, 5);
+        x.addLayer(4, 0, 0);
+        x.prefetch(0);
+        Check.due("the last pixel", x.setPixel(8, 4, 0), 1);
+        Check.due("its tile goes", x.isCached(0, 2, 1), 0);
+        Check.due("the pixel before it", x.setPixel(7, 3, 0), 1);
+        Check.due("the tile of that goes", x.isCached(0, 1, 0), 0);
+        x.newImage(16, 16);
+        x.setTileSize(2);
+        x.setCacheLimit(64);
+        x.removeLayer(0);
+        x.addLayer(6, 1, 0);
+        x.addLayer(4, 0, 0);
+        x.pixel(1, 0, 0);
+        x.pixel(0, 0, 15);
+        Check.due("a lower edge", x.setPixel(0, 15, 0), 1);
+        Check.due("the tile above it goes", x.isCached(0, 0, 7), 0);
+        Check.due("the first tile of the layer above stays", x.isCached(1, 0, 0), 1);
     }
 
     private static void fillRectangle() {

@@ -22,6 +22,7 @@ final class LayersTest {
         removeLayer();
         flatten();
         flattenKeepsTilesAbove();
+        flattenTheLowest();
         layer();
         Check.end();
     }
@@ -120,6 +121,7 @@ final class LayersTest {
         made(200, 2, 400, 0, 255);
         made(125, 2, 150, 0, 123);
         made(131, 2, 150, 0, 132);
+        made(228, 2, 100, 0, 228);
         made(7, 2, 0, 0, 128);
         made(255, 3, 2, 0, 255);
         made(127, 3, 2, 0, 0);
@@ -156,12 +158,19 @@ final class LayersTest {
         AdjustmentStack corner = new AdjustmentStack();
         corner.addLayer(6, 3, 0);
         at(corner, "blur over a corner", 0, 0, (4 * 17 * 6 + 4 * 29 * 6) / 16);
+        at(corner, "blur over the last corner", 7, 7, 125);
+        blur.setPixel(3, 3, 99);
+        blur.setPixel(4, 3, 100);
+        at(blur, "blur rounds down", 2, 2, 99);
         AdjustmentStack median = spotted(7, 1, 0);
         at(median, "median", 3, 3, 100);
         AdjustmentStack even = new AdjustmentStack();
         even.addLayer(7, 1, 0);
         at(even, "median of 0, 17, 29, 46", 0, 0, 17);
         at(even, "median of 0, 17, 34, 29, 46, 63", 1, 0, 29);
+        even.setPixel(0, 0, 200);
+        even.setPixel(1, 0, 5);
+        at(even, "median of 200, 5, 29, 46", 0, 0, 29);
         AdjustmentStack wide = new AdjustmentStack();
         wide.addLayer(7, 2, 0);
         at(wide, "median of 25", 2, 2, (17 + 29) * 2);
@@ -170,6 +179,8 @@ final class LayersTest {
         at(dilate, "dilate", 0, 1, 100);
         at(dilate, "dilate", 5, 5, 200);
         at(dilate, "dilate", 6, 5, 100);
+        dilate.fillRectangle(0, 0, 8, 8, 0);
+        at(dilate, "dilate of nothing", 5, 5, 0);
         AdjustmentStack erode = spotted(9, 3, 0);
         at(erode, "erode", 1, 0, 10);
         at(erode, "erode", 0, 0, 100);
@@ -179,6 +190,7 @@ final class LayersTest {
         at(sharpen, "sharpen", 3, 3, 255);
         at(sharpen, "sharpen", 4, 3, 0);
         at(sharpen, "sharpen", 2, 2, 100 - 11);
+        at(sharpen, "sharpen", 5, 2, 100 + 10);
         AdjustmentStack slight = spotted(10, 1, 3);
         at(slight, "sharpen rounds down", 2, 2, 99);
         AdjustmentStack none = spotted(10, 1, 0);
@@ -199,6 +211,10 @@ final class LayersTest {
         at(x, "stretch", 3, 3, 255);
         at(x, "stretch", 4, 3, 0);
         at(x, "stretch", 7, 7, 90 * 255 / 190);
+        x.fillRectangle(0, 0, 8, 8, 100);
+        x.setPixel(0, 0, 50);
+        x.setPixel(7, 0, 150);
+        at(x, "stretch with its extremes in the corners", 3, 3, 127);
         x.fillRectangle(0, 0, 8, 8, 77);
         at(x, "stretch of one value", 5, 5, 77);
     }
@@ -430,6 +446,23 @@ final class LayersTest {
         Check.due("prefetch(1)", x.prefetch(1), 3 + 2);
         Check.due("pixel(1, 7, 0)", x.pixel(1, 7, 0), 17 * 7 + 4);
         Check.due("clearCache()", x.clearCache(), 8);
+    }
+
+    private static void flattenTheLowest() {
+        AdjustmentStack x = four();
+        Check.due("flatten(0)", x.flatten(0), 3);
+        Check.due("oldestTile() of the layer 1, now 0", x.oldestTile(), 0);
+        for (int layer = 0; layer < 3; layer++) {
+            Check.due("tiles of layer " + layer, x.cachedTiles(layer), 4);
+        }
+        Check.due("addLayer", x.addLayer(4, 0, 0), 3);
+        Check.due("a new layer has no tiles", x.cachedTiles(3), 0);
+        Check.due("prefetch(3)", x.prefetch(3), 4);
+        Check.due("there was room for 16 tiles", x.counter(2), 0);
+        Check.due("pixel(3, 1, 0)", x.pixel(3, 1, 0), 255 - 21);
+        Check.due("pixel(2, 1, 0)", x.pixel(2, 1, 0), 21);
+        Check.due("flatten(3)", x.flatten(3), 0);
+        Check.due("no tiles are left", x.clearCache(), 0);
     }
 
     private static void layer() {

@@ -177,6 +177,7 @@ final class TextTest {
     private static void errors() {
         loads("blu 1;", -10);
         loads("blurr 1;", -10);
+        loads("glur 1;", -10);
         loads("blur x;", -15);
         loads("blur ;", -15);
         loads("blur", -14);
