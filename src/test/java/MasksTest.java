@@ -188,8 +188,10 @@ final class MasksTest {
             Check.due("wrong dab", x.dab(each[0], each[1], each[2], each[3]), INVALID);
         }
         for (int i = 3; i <= 6; i++) {
-            Check.due("dab " + i, x.dab(0, 0, 0, 8), i);
+            Check.due("dab " + i, x.dab(0, i - 3, 15, 0), i);
+            Check.due("centre of dab " + i, x.maskValue(0, i - 3, 15), 255);
         }
+        Check.due("beside the sixth dab", x.maskValue(0, 4, 15), 0);
         x.setMask(0, 0, 0, 0, 0, 0);
         Check.due("a seventh dab", x.dab(0, 0, 0, 0), AdjustmentStack.CAPACITY_EXCEEDED);
         Check.due("a wrong seventh dab", x.dab(0, 0, 0, 9), INVALID);

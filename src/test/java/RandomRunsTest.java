@@ -22,6 +22,9 @@ final class RandomRunsTest {
         " mode difference", " off", ";", ";", ";", ";", ";", " ", "-", "7", "07", "x", "blur", "offset -", "opacity",
         "mode", "levels 9 9", "fill 256", "A", "\u00e9", " mode blur", "off off", "invert;", "invert;", "stretch;"};
 
+    private static final int[] WILD = {0, 1, 3, 4, 7, 8, 15, 16, 17, 64, 100, 254, 255, 256, 300, 400, -3, -255,
+        65536, 1 << 28, 1 << 30, Integer.MAX_VALUE, Integer.MIN_VALUE};
+
     private final AdjustmentStack real = new AdjustmentStack();
     private final ReferenceStack reference = new ReferenceStack();
     private final StringBuilder calls = new StringBuilder();
@@ -37,6 +40,9 @@ final class RandomRunsTest {
                 break;
             }
             if (!new RandomRunsTest(run + 1000).agreesInTexts()) {
+                break;
+            }
+            if (!new RandomRunsTest(run + 2000).agreesInWildCalls()) {
                 break;
             }
         }
@@ -84,6 +90,24 @@ final class RandomRunsTest {
                 return false;
             }
             left -= length + 25;
+        }
+        return true;
+    }
+
+    /** Arguments that are seldom possible; to throw is as wrong as another answer. */
+    private boolean agreesInWildCalls() {
+        for (int i = 0; i < CALLS; i++) {
+            String[] names = pick(0, 1) == 0 ? CHANGES : QUESTIONS;
+            String name = names[pick(0, names.length - 1)];
+            int[] arguments = argumentsOf(name);
+            for (int j = 0; j < arguments.length; j++) {
+                if (pick(0, 3) == 0) {
+                    arguments[j] = WILD[pick(0, WILD.length - 1)] + pick(-1, 1);
+                }
+            }
+            if (!agrees(name, arguments)) {
+                return false;
+            }
         }
         return true;
     }
