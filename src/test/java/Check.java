@@ -1,21 +1,32 @@
 /** Compares answers with those that are due, and ends a test. */
 final class Check {
     private static int wrong = 0;
+    private static String part = "";
 
     private Check() {
+    }
+
+    /** The promise that the checks from here on are about. */
+    static void promise(int number, String title) {
+        part = "Promise " + number + ": " + title + ": ";
+    }
+
+    /** The part of the description that the checks from here on are about. */
+    static void description(String title) {
+        part = "Description: " + title + ": ";
     }
 
     static void due(String call, long got, long want) {
         if (got != want) {
             wrong++;
-            System.out.println(call + " answered " + got + ", due is " + want);
+            System.out.println(part + call + " answered " + got + ", due is " + want);
         }
     }
 
     static void holds(String what, boolean truth) {
         if (!truth) {
             wrong++;
-            System.out.println(what + " does not hold");
+            System.out.println(part + what + " does not hold");
         }
     }
 

@@ -20,6 +20,7 @@ final class ImageTest {
     }
 
     private static void newObject() {
+        Check.promise(1, "A new object");
         AdjustmentStack x = new AdjustmentStack();
         int[] sizes = {8, 8, 0, 4, 4, 16};
         for (int what = 0; what < sizes.length; what++) {
@@ -43,6 +44,7 @@ final class ImageTest {
     }
 
     private static void newObjectsShareNothing() {
+        Check.promise(1, "A new object");
         AdjustmentStack x = new AdjustmentStack();
         x.addLayer(12, 3, 0);
         x.setPixel(0, 0, 200);
@@ -58,6 +60,7 @@ final class ImageTest {
     }
 
     private static void newImage() {
+        Check.promise(2, "newImage");
         AdjustmentStack x = new AdjustmentStack();
         x.addLayer(4, 0, 0);
         x.setPixel(1, 1, 0);
@@ -86,6 +89,7 @@ final class ImageTest {
     }
 
     private static void setPixel() {
+        Check.promise(3, "setPixel");
         AdjustmentStack x = new AdjustmentStack();
         Check.due("setPixel(0, 0, 255)", x.setPixel(0, 0, 255), 0);
         Check.due("setPixel(7, 7, 0)", x.setPixel(7, 7, 0), 0);
@@ -105,6 +109,7 @@ final class ImageTest {
     }
 
     private static void removedTilesAfterSetPixel() {
+        Check.promise(3, "setPixel");
         AdjustmentStack x = new AdjustmentStack();
         x.newImage(16, 16);
         x.setTileSize(2);
@@ -130,6 +135,7 @@ final class ImageTest {
     }
 
     private static void reachesAddUp() {
+        Check.promise(3, "setPixel");
         AdjustmentStack x = new AdjustmentStack();
         x.newImage(16, 16);
         x.setTileSize(3);
@@ -146,6 +152,7 @@ final class ImageTest {
     }
 
     private static void removedTilesAtTheEdges() {
+        Check.promise(3, "setPixel");
         AdjustmentStack x = new AdjustmentStack();
         x.newImage(9, 5);
         x.addLayer(4, 0, 0);
@@ -168,6 +175,7 @@ final class ImageTest {
     }
 
     private static void fillRectangle() {
+        Check.promise(4, "fillRectangle");
         AdjustmentStack x = new AdjustmentStack();
         Check.due("fillRectangle(1, 2, 3, 2, 77)", x.fillRectangle(1, 2, 3, 2, 77), 0);
         for (int row = 0; row < 8; row++) {
@@ -193,6 +201,7 @@ final class ImageTest {
     }
 
     private static void removedTilesAfterFillRectangle() {
+        Check.promise(4, "fillRectangle");
         AdjustmentStack x = new AdjustmentStack();
         x.newImage(16, 16);
         x.setCacheLimit(64);
@@ -211,6 +220,7 @@ final class ImageTest {
     }
 
     private static void size() {
+        Check.promise(5, "size");
         AdjustmentStack x = new AdjustmentStack();
         x.newImage(5, 11);
         x.addLayer(4, 0, 0);

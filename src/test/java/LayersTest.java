@@ -28,6 +28,7 @@ final class LayersTest {
     }
 
     private static void addLayer() {
+        Check.promise(6, "addLayer");
         AdjustmentStack x = new AdjustmentStack();
         for (int i = 0; i < 8; i++) {
             Check.due("addLayer " + i, x.addLayer(i % 2 == 0 ? 4 : 12, i % 2 == 0 ? 0 : i, 0), i);
@@ -45,6 +46,7 @@ final class LayersTest {
     }
 
     private static void freshMaskAfterUse() {
+        Check.promise(6, "addLayer");
         AdjustmentStack x = new AdjustmentStack();
         x.addLayer(4, 0, 0);
         x.dab(0, 1, 1, 1);
@@ -64,6 +66,7 @@ final class LayersTest {
 
     /** For each kind: the range of a, and that of b with the lowest a. */
     private static void parametersThatArePossible() {
+        Check.promise(6, "addLayer");
         int[][] ranges = {{0, 254, 1, 255}, {-255, 255, 0, 0}, {0, 400, 0, 0}, {2, 16, 0, 0}, {0, 0, 0, 0},
             {0, 256, 0, 0}, {1, 3, 0, 0}, {1, 2, 0, 0}, {1, 3, 0, 0}, {1, 3, 0, 0}, {1, 3, 0, 300}, {-3, 3, -3, 3},
             {0, 255, 0, 0}, {0, 0, 0, 0}};
@@ -107,6 +110,7 @@ final class LayersTest {
     }
 
     private static void kindsOfOnePixel() {
+        Check.description("Layers");
         made(20, 0, 20, 200, 0);
         made(21, 0, 20, 200, 1);
         made(199, 0, 20, 200, 253);
@@ -151,6 +155,7 @@ final class LayersTest {
     }
 
     private static void kindsOfNeighbourhoods() {
+        Check.description("Layers");
         AdjustmentStack blur = spotted(6, 1, 0);
         at(blur, "blur", 3, 3, (7 * 100 + 210) / 9);
         at(blur, "blur", 2, 2, (8 * 100 + 200) / 9);
@@ -207,6 +212,7 @@ final class LayersTest {
     }
 
     private static void kindsOfTheWholeImage() {
+        Check.description("Layers");
         AdjustmentStack x = spotted(13, 0, 0);
         at(x, "stretch", 3, 3, 255);
         at(x, "stretch", 4, 3, 0);
@@ -224,6 +230,7 @@ final class LayersTest {
     }
 
     private static void modes() {
+        Check.description("Layers");
         mixed(100, 30, 0, 30);
         mixed(100, 200, 1, 78);
         mixed(255, 254, 1, 254);
@@ -242,6 +249,7 @@ final class LayersTest {
     }
 
     private static void opacity() {
+        Check.description("Layers");
         Check.due("opacity 0", made(100, 12, 200, 0, 0, 0), 100);
         Check.due("opacity 33 upward", made(100, 12, 200, 0, 0, 33), 133);
         Check.due("opacity 50 of 1 upward", made(100, 12, 101, 0, 0, 50), 100);
@@ -250,6 +258,7 @@ final class LayersTest {
     }
 
     private static void setParameters() {
+        Check.promise(7, "setParameters");
         AdjustmentStack x = new AdjustmentStack();
         x.addLayer(11, -2, 3);
         x.addLayer(0, 5, 6);
@@ -291,6 +300,7 @@ final class LayersTest {
     }
 
     private static void setBlend() {
+        Check.promise(8, "setBlend");
         AdjustmentStack x = new AdjustmentStack();
         x.addLayer(4, 0, 0);
         Check.due("setBlend(0, 7, 0)", x.setBlend(0, 7, 0), 100);
@@ -307,6 +317,7 @@ final class LayersTest {
     }
 
     private static void setEnabled() {
+        Check.promise(9, "setEnabled");
         AdjustmentStack x = four();
         Check.due("setEnabled(1, 1)", x.setEnabled(1, 1), AdjustmentStack.ILLEGAL_STATE);
         Check.due("tiles stay", x.cachedTiles(1), 4);
@@ -326,6 +337,7 @@ final class LayersTest {
     }
 
     private static void moveLayer() {
+        Check.promise(10, "moveLayer");
         AdjustmentStack x = new AdjustmentStack();
         for (int i = 0; i < 5; i++) {
             x.addLayer(1, i, 0);
@@ -352,6 +364,7 @@ final class LayersTest {
     }
 
     private static void duplicateLayer() {
+        Check.promise(11, "duplicateLayer");
         AdjustmentStack x = new AdjustmentStack();
         x.addLayer(2, 150, 0);
         x.addLayer(4, 0, 0);
@@ -384,6 +397,7 @@ final class LayersTest {
     }
 
     private static void removeLayer() {
+        Check.promise(12, "removeLayer");
         AdjustmentStack x = new AdjustmentStack();
         for (int i = 0; i < 4; i++) {
             x.addLayer(1, 10 * i, 0);
@@ -405,6 +419,7 @@ final class LayersTest {
     }
 
     private static void flatten() {
+        Check.promise(13, "flatten");
         AdjustmentStack x = new AdjustmentStack();
         x.addLayer(1, 10, 0);
         x.addLayer(4, 0, 0);
@@ -427,6 +442,7 @@ final class LayersTest {
     }
 
     private static void flattenKeepsTilesAbove() {
+        Check.promise(13, "flatten");
         AdjustmentStack x = four();
         x.clearCache();
         x.pixel(3, 5, 1);
@@ -449,6 +465,7 @@ final class LayersTest {
     }
 
     private static void flattenTheLowest() {
+        Check.promise(13, "flatten");
         AdjustmentStack x = four();
         Check.due("flatten(0)", x.flatten(0), 3);
         Check.due("oldestTile() of the layer 1, now 0", x.oldestTile(), 0);
@@ -466,6 +483,7 @@ final class LayersTest {
     }
 
     private static void layer() {
+        Check.promise(14, "layer");
         AdjustmentStack x = new AdjustmentStack();
         int[][] reaches = {{0, 1, 2, 0}, {1, 9, 0, 0}, {2, 9, 0, 0}, {3, 9, 0, 0}, {4, 0, 0, 0}, {5, 9, 0, 0},
             {6, 3, 0, 3}, {7, 2, 0, 2}, {8, 1, 0, 1}, {9, 2, 0, 2}, {10, 3, 200, 3}, {11, -3, 2, 3}, {11, 1, -2, 2},

@@ -40,6 +40,7 @@ final class MasksTest {
     }
 
     private static void setMask() {
+        Check.promise(15, "setMask");
         AdjustmentStack x = inverted();
         Check.due("setMask(0, 1, ..)", x.setMask(0, 1, 2, 3, 4, 5), 0);
         Check.due("setMask(0, 2, ..)", x.setMask(0, 2, 0, 0, 15, 0), 1);
@@ -65,6 +66,7 @@ final class MasksTest {
     }
 
     private static void wrongMasks() {
+        Check.promise(15, "setMask");
         AdjustmentStack x = inverted();
         int[][] wrong = {{1, 0, 0, 0, 0, 0}, {-1, 0, 0, 0, 0, 0}, {0, -1, 0, 0, 0, 0}, {0, 5, 0, 0, 0, 0},
             {0, 0, 1, 0, 0, 0}, {0, 0, 0, 1, 0, 0}, {0, 0, 0, 0, 1, 0}, {0, 0, 0, 0, 0, 1},
@@ -85,6 +87,7 @@ final class MasksTest {
     }
 
     private static void rectangle() {
+        Check.description("Masks");
         AdjustmentStack x = new AdjustmentStack();
         x.newImage(16, 16);
         x.addLayer(4, 0, 0);
@@ -109,6 +112,7 @@ final class MasksTest {
     }
 
     private static void gradient() {
+        Check.description("Masks");
         AdjustmentStack x = inverted();
         x.setMask(0, 2, 2, 0, 5, 0);
         int[] want = {0, 0, 0, 85, 170, 255, 255, 255};
@@ -122,6 +126,7 @@ final class MasksTest {
     }
 
     private static void luminosity() {
+        Check.description("Masks");
         AdjustmentStack x = inverted();
         x.addLayer(1, 20, 0);
         x.setMask(0, 3, 0, 0, 0, 0);
@@ -138,6 +143,7 @@ final class MasksTest {
     }
 
     private static void setFeather() {
+        Check.promise(16, "setFeather");
         AdjustmentStack x = inverted();
         Check.due("setFeather(0, 5)", x.setFeather(0, 5), 0);
         Check.due("setFeather(0, 0)", x.setFeather(0, 0), 5);
@@ -153,6 +159,7 @@ final class MasksTest {
     }
 
     private static void invertMask() {
+        Check.promise(17, "invertMask");
         AdjustmentStack x = inverted();
         Check.due("invertMask(0)", x.invertMask(0), 1);
         Check.due("maskValue(0, 1, 1)", x.maskValue(0, 1, 1), 0);
@@ -168,6 +175,7 @@ final class MasksTest {
     }
 
     private static void dab() {
+        Check.promise(18, "dab");
         AdjustmentStack x = new AdjustmentStack();
         x.newImage(16, 16);
         x.addLayer(4, 0, 0);
@@ -204,6 +212,7 @@ final class MasksTest {
     }
 
     private static void maskValue() {
+        Check.promise(19, "maskValue");
         AdjustmentStack x = inverted();
         int[][] wrong = {{1, 0, 0}, {-1, 0, 0}, {0, -1, 0}, {0, 8, 0}, {0, 0, -1}, {0, 0, 8}};
         for (int[] each : wrong) {
@@ -215,6 +224,7 @@ final class MasksTest {
     }
 
     private static void maskedOutput() {
+        Check.description("Layers");
         AdjustmentStack x = inverted();
         x.setMask(0, 2, 0, 0, 5, 0);
         x.setBlend(0, 0, 40);

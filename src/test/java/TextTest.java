@@ -28,6 +28,7 @@ final class TextTest {
     }
 
     private static void append() {
+        Check.promise(20, "append");
         AdjustmentStack x = new AdjustmentStack();
         Check.due("append(0)", x.append(0), INVALID);
         Check.due("append(256)", x.append(256), INVALID);
@@ -46,6 +47,7 @@ final class TextTest {
     }
 
     private static void clearText() {
+        Check.promise(21, "clearText");
         AdjustmentStack x = new AdjustmentStack();
         Check.due("clearText() of none", x.clearText(), 0);
         Check.type(x, "blur 1;");
@@ -55,6 +57,7 @@ final class TextTest {
     }
 
     private static void loadStack() {
+        Check.promise(22, "loadStack");
         AdjustmentStack x = new AdjustmentStack();
         x.addLayer(12, 9, 0);
         x.dab(0, 1, 1, 1);
@@ -79,6 +82,7 @@ final class TextTest {
     }
 
     private static void kinds() {
+        Check.promise(22, "loadStack");
         for (int kind = 0; kind < KINDS.length; kind++) {
             AdjustmentStack x = new AdjustmentStack();
             Check.due("load " + KINDS[kind], Check.load(x, KINDS[kind] + ";"), 1);
@@ -93,6 +97,7 @@ final class TextTest {
     }
 
     private static void modes() {
+        Check.promise(22, "loadStack");
         for (int mode = 0; mode < MODES.length; mode++) {
             AdjustmentStack x = new AdjustmentStack();
             Check.due("load mode " + MODES[mode], Check.load(x, "invert mode " + MODES[mode] + ";"), 1);
@@ -101,6 +106,7 @@ final class TextTest {
     }
 
     private static void options() {
+        Check.promise(22, "loadStack");
         AdjustmentStack x = new AdjustmentStack();
         Check.due("three options", Check.load(x, "invert off mode add opacity 0;fill 1 opacity 100;"), 2);
         Check.due("layer(0, 3)", x.layer(0, 3), 6);
@@ -121,6 +127,7 @@ final class TextTest {
     }
 
     private static void numbers() {
+        Check.promise(22, "loadStack");
         loads("brightness -255;", 1);
         loads("brightness - 255;", 1);
         loads("brightness -0;", 1);
@@ -164,6 +171,7 @@ final class TextTest {
     }
 
     private static void spaces() {
+        Check.promise(22, "loadStack");
         loads("   ", 0);
         loads("  blur   1  ;  invert  ;  ", 2);
         loads("blur1;invert;", 2);
@@ -175,6 +183,7 @@ final class TextTest {
     }
 
     private static void errors() {
+        Check.promise(22, "loadStack");
         loads("blu 1;", -10);
         loads("blurr 1;", -10);
         loads("glur 1;", -10);
@@ -203,6 +212,7 @@ final class TextTest {
     }
 
     private static void errorsOfOptions() {
+        Check.promise(22, "loadStack");
         loads("invert opacity;", -24);
         loads("invert opacity 101;", -25);
         loads("invert opacity -1;", -25);
@@ -223,6 +233,7 @@ final class TextTest {
     }
 
     private static void nineLayers() {
+        Check.promise(22, "loadStack");
         String eight = "invert;".repeat(8);
         loads(eight, 8);
         loads(eight + "  ", 8);
@@ -232,6 +243,7 @@ final class TextTest {
     }
 
     private static void failureChangesNothing() {
+        Check.promise(22, "loadStack");
         AdjustmentStack x = new AdjustmentStack();
         x.addLayer(12, 9, 0);
         x.prefetch(0);

@@ -29,6 +29,7 @@ final class TilesTest {
     }
 
     private static void pixel() {
+        Check.promise(23, "pixel");
         AdjustmentStack x = new AdjustmentStack();
         Check.due("pixel(-1, 7, 7)", x.pixel(-1, 7, 7), (17 * 7 + 29 * 7) % 256);
         Check.due("pixel(0, 0, 0) without layers", x.pixel(0, 0, 0), INVALID);
@@ -55,6 +56,7 @@ final class TilesTest {
     }
 
     private static void pixelOfLayersThatAreNotEnabled() {
+        Check.promise(23, "pixel");
         AdjustmentStack x = new AdjustmentStack();
         x.addLayer(4, 0, 0);
         x.addLayer(6, 3, 0);
@@ -86,6 +88,7 @@ final class TilesTest {
     }
 
     private static void requestsOfReach() {
+        Check.promise(23, "pixel");
         Check.due("reach 0", requestedByOneTile(1, 3, 0, 3, 3), 1);
         Check.due("reach 1", requestedByOneTile(6, 1, 0, 3, 3), 9);
         Check.due("reach 2", requestedByOneTile(7, 2, 0, 3, 3), 9);
@@ -109,6 +112,7 @@ final class TilesTest {
     }
 
     private static void orderOfUse() {
+        Check.promise(23, "pixel");
         AdjustmentStack x = new AdjustmentStack();
         x.addLayer(4, 0, 0);
         x.addLayer(6, 1, 0);
@@ -125,6 +129,7 @@ final class TilesTest {
     }
 
     private static void prefetch() {
+        Check.promise(24, "prefetch");
         AdjustmentStack x = new AdjustmentStack();
         x.newImage(9, 5);
         x.addLayer(4, 0, 0);
@@ -148,6 +153,7 @@ final class TilesTest {
     }
 
     private static void prefetchOverTheLimit() {
+        Check.promise(24, "prefetch");
         AdjustmentStack x = new AdjustmentStack();
         x.newImage(16, 16);
         x.setTileSize(2);
@@ -167,6 +173,7 @@ final class TilesTest {
     }
 
     private static void setCacheLimit() {
+        Check.promise(25, "setCacheLimit");
         AdjustmentStack x = new AdjustmentStack();
         x.addLayer(4, 0, 0);
         x.prefetch(0);
@@ -189,6 +196,7 @@ final class TilesTest {
     }
 
     private static void setTileSize() {
+        Check.promise(26, "setTileSize");
         AdjustmentStack x = new AdjustmentStack();
         x.addLayer(4, 0, 0);
         x.prefetch(0);
@@ -206,6 +214,7 @@ final class TilesTest {
     }
 
     private static void clearCache() {
+        Check.promise(27, "clearCache");
         AdjustmentStack x = new AdjustmentStack();
         x.addLayer(4, 0, 0);
         x.addLayer(4, 0, 0);
@@ -219,6 +228,7 @@ final class TilesTest {
     }
 
     private static void isCached() {
+        Check.promise(28, "isCached");
         AdjustmentStack x = new AdjustmentStack();
         x.newImage(9, 5);
         x.addLayer(4, 0, 0);
@@ -234,6 +244,7 @@ final class TilesTest {
     }
 
     private static void cachedTiles() {
+        Check.promise(29, "cachedTiles");
         AdjustmentStack x = new AdjustmentStack();
         Check.due("cachedTiles(0) without layers", x.cachedTiles(0), INVALID);
         x.addLayer(4, 0, 0);
@@ -249,6 +260,7 @@ final class TilesTest {
     }
 
     private static void counter() {
+        Check.promise(30, "counter");
         AdjustmentStack x = new AdjustmentStack();
         Check.due("counter(-1)", x.counter(-1), INVALID);
         Check.due("counter(3)", x.counter(3), INVALID);
@@ -268,6 +280,7 @@ final class TilesTest {
     }
 
     private static void oldestTile() {
+        Check.promise(31, "oldestTile");
         AdjustmentStack x = new AdjustmentStack();
         x.newImage(16, 16);
         x.setTileSize(2);

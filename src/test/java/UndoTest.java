@@ -16,6 +16,7 @@ final class UndoTest {
     }
 
     private static void undo() {
+        Check.promise(38, "undo");
         AdjustmentStack x = new AdjustmentStack();
         Check.due("undo() of nothing", x.undo(), ILLEGAL);
         x.addLayer(4, 0, 0);
@@ -39,6 +40,7 @@ final class UndoTest {
     }
 
     private static void sixStates() {
+        Check.promise(38, "undo");
         AdjustmentStack x = new AdjustmentStack();
         for (int i = 1; i <= 8; i++) {
             x.setPixel(0, 0, i);
@@ -52,6 +54,7 @@ final class UndoTest {
     }
 
     private static void undoOfMasks() {
+        Check.promise(38, "undo");
         AdjustmentStack x = new AdjustmentStack();
         x.addLayer(4, 0, 0);
         x.setMask(0, 1, 1, 2, 3, 4);
@@ -70,6 +73,7 @@ final class UndoTest {
     }
 
     private static void save() {
+        Check.promise(39, "save");
         AdjustmentStack x = new AdjustmentStack();
         Check.due("save(2)", x.save(2), INVALID);
         Check.due("save(-1)", x.save(-1), INVALID);
@@ -86,6 +90,7 @@ final class UndoTest {
     }
 
     private static void restore() {
+        Check.promise(40, "restore");
         AdjustmentStack x = new AdjustmentStack();
         Check.due("restore(0) of nothing", x.restore(0), ILLEGAL);
         Check.due("restore(2)", x.restore(2), INVALID);

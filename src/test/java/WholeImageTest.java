@@ -27,6 +27,7 @@ final class WholeImageTest {
     }
 
     private static void histogram() {
+        Check.promise(32, "histogram");
         AdjustmentStack x = new AdjustmentStack();
         Check.due("histogram(-1, 0, 255)", x.histogram(-1, 0, 255), 64);
         Check.due("histogram(-1, 0, 0)", x.histogram(-1, 0, 0), 1);
@@ -45,6 +46,7 @@ final class WholeImageTest {
     }
 
     private static void sum() {
+        Check.promise(33, "sum");
         AdjustmentStack x = new AdjustmentStack();
         Check.due("sum(-1)", x.sum(-1), baseSum());
         Check.due("sum(0) without layers", x.sum(0), INVALID);
@@ -63,6 +65,7 @@ final class WholeImageTest {
     }
 
     private static void effect() {
+        Check.promise(34, "effect");
         AdjustmentStack x = new AdjustmentStack();
         Check.due("effect(0) without layers", x.effect(0), INVALID);
         x.fillRectangle(0, 0, 8, 8, 100);
@@ -84,6 +87,7 @@ final class WholeImageTest {
     }
 
     private static void strongestLayer() {
+        Check.promise(35, "strongestLayer");
         AdjustmentStack x = new AdjustmentStack();
         Check.due("strongestLayer() of none", x.strongestLayer(), AdjustmentStack.NONE);
         x.fillRectangle(0, 0, 8, 8, 100);
@@ -100,6 +104,7 @@ final class WholeImageTest {
     }
 
     private static void exchangeDifference() {
+        Check.promise(36, "exchangeDifference");
         AdjustmentStack x = new AdjustmentStack();
         Check.due("exchangeDifference(0) without layers", x.exchangeDifference(0), INVALID);
         x.addLayer(4, 0, 0);
@@ -118,6 +123,7 @@ final class WholeImageTest {
     }
 
     private static void snapshotDifference() {
+        Check.promise(37, "snapshotDifference");
         AdjustmentStack x = new AdjustmentStack();
         Check.due("snapshotDifference(0)", x.snapshotDifference(0), AdjustmentStack.ILLEGAL_STATE);
         Check.due("snapshotDifference(2)", x.snapshotDifference(2), INVALID);
@@ -142,6 +148,7 @@ final class WholeImageTest {
     }
 
     private static void questionsLeaveTheCacheAlone() {
+        Check.description("Errors");
         AdjustmentStack x = new AdjustmentStack();
         x.addLayer(4, 0, 0);
         x.addLayer(6, 1, 0);
