@@ -30,6 +30,7 @@ final class LimitsTest {
         }
         fullIsFull();
         emptyIsEmpty();
+        wrongTexts();
         illegalStates();
         errorsInTheirOrder();
         layersThatDoNotExist();
@@ -122,6 +123,11 @@ final class LimitsTest {
         refused(35, State.NEW, "strongestLayer", NONE);
         refused(21, State.NEW, "clearText", 0);
         refused(27, State.NEW, "clearCache", 0);
+    }
+
+    /** The text of the rich state ends, with its 16 characters, where a token is needed. */
+    private static void wrongTexts() {
+        refused(22, State.RICH, "loadStack", -10 - 16);
     }
 
     private static void illegalStates() {
