@@ -12,6 +12,7 @@ final class LimitsTest {
     private static final int CAPACITY = AdjustmentStack.CAPACITY_EXCEEDED;
     private static final int NONE = AdjustmentStack.NONE;
     private static final Map<State, List<String>> UNTOUCHED = new EnumMap<>(State.class);
+    private static final Map<State, List<String>> UNTOUCHED_MASKS = new EnumMap<>(State.class);
 
     private LimitsTest() {
     }
@@ -19,6 +20,7 @@ final class LimitsTest {
     public static void main(String[] args) {
         for (State state : State.values()) {
             UNTOUCHED.put(state, Probe.of(made(state)));
+            UNTOUCHED_MASKS.put(state, Probe.ofMasks(made(state)));
             for (Limits.Limit limit : Limits.in(made(state))) {
                 Check.promise(limit.promise(), state.name());
                 refusesBeyond(state, limit);
@@ -53,10 +55,19 @@ final class LimitsTest {
 
     /** The answer is an error, or NONE, and the object is as if the call had not been made. */
     private static void refused(State state, Call call, int due) {
+        Check.due(call.toString(), call.on(made(state)), due);
+        changesNothing(state, call);
+    }
+
+    private static void changesNothing(State state, Call call) {
         AdjustmentStack stack = made(state);
-        Check.due(call.toString(), call.on(stack), due);
+        call.on(stack);
         String changed = Probe.difference(Probe.of(stack), UNTOUCHED.get(state));
         Check.holds(call + " changes nothing: " + changed, changed.isEmpty());
+        stack = made(state);
+        call.on(stack);
+        changed = Probe.difference(Probe.ofMasks(stack), UNTOUCHED_MASKS.get(state));
+        Check.holds(call + " changes no mask: " + changed, changed.isEmpty());
     }
 
     private static void refused(int promise, State state, String call, int due) {
@@ -80,6 +91,13 @@ final class LimitsTest {
         Check.due(call.toString(), answer, call.on(reference));
         String difference = Probe.difference(Probe.of(stack), Probe.of(reference));
         Check.holds("as the document asks after " + call + ": " + difference, difference.isEmpty());
+        stack = made(state);
+        reference = new ReferenceStack();
+        state.make(reference);
+        call.on(stack);
+        call.on(reference);
+        difference = Probe.difference(Probe.ofMasks(stack), Probe.ofMasks(reference));
+        Check.holds("masks as the document asks after " + call + ": " + difference, difference.isEmpty());
     }
 
     private static void parametersOfLayer(int kind) {
@@ -188,6 +206,7 @@ final class LimitsTest {
             "pixel -1 0 0", "snapshotDifference 0", "snapshotDifference 1"};
         String[] ofLayers = {"layer 0 8", "maskValue 0 0 0", "isCached 0 0 0", "cachedTiles 0", "histogram 0 0 9", "sum 0",
             "effect 0", "exchangeDifference 0", "exchangeDifference 2", "effect 3", "sum 3", "maskValue 3 3 3"};
+        Check.description("Errors");
         for (State state : State.values()) {
             for (String question : questions) {
                 changesNothing(state, Call.of(question));
@@ -197,13 +216,5 @@ final class LimitsTest {
             changesNothing(State.RICH, Call.of(question));
             changesNothing(State.FULL, Call.of(question));
         }
-    }
-
-    private static void changesNothing(State state, Call call) {
-        Check.description("Errors: " + state.name());
-        AdjustmentStack stack = made(state);
-        call.on(stack);
-        String changed = Probe.difference(Probe.of(stack), UNTOUCHED.get(state));
-        Check.holds(call + " changes nothing: " + changed, changed.isEmpty());
     }
 }

@@ -116,7 +116,8 @@ final class MasksBoundariesTest {
 
     private static void luminosityAtItsEnds() {
         Check.description("Masks: luminosity");
-        AdjustmentStack x = made("setPixel 1 1 255, setPixel 2 1 0, setPixel 3 1 1, addLayer 12 100 0, setMask 0 3 0 0 0 0");
+        AdjustmentStack x = made("setPixel 1 1 255, setPixel 2 1 0, setPixel 3 1 1, addLayer 12 100 0, "
+            + "setMask 0 3 0 0 0 0");
         value(x, "of 255", 1, 1, 255);
         value(x, "of 0", 2, 1, 0);
         value(x, "of 1", 3, 1, 1);

@@ -28,6 +28,22 @@ final class Probe {
         return probe.told;
     }
 
+    /** What masks keep without showing it: the feather, the inversion, and the dabs of a mask of another kind. */
+    static List<String> ofMasks(Object stack) {
+        Probe probe = new Probe(stack);
+        int layers = probe.ask("size", 2);
+        for (int layer = 0; layer < layers; layer++) {
+            probe.ask("setFeather", layer, 0);
+            probe.ask("invertMask", layer);
+            probe.ask("setMask", layer, 4, 0, 0, 0, 0);
+            for (int i = 0; i < 4; i++) {
+                probe.ask("maskValue", layer, i, i);
+                probe.ask("maskValue", layer, 3 - i, i);
+            }
+        }
+        return probe.told;
+    }
+
     /** The first difference, or an empty text if there is none. */
     static String difference(List<String> first, List<String> second) {
         for (int i = 0; i < Math.min(first.size(), second.size()); i++) {

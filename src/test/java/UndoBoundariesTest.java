@@ -1,5 +1,3 @@
-import java.util.List;
-
 /** Promises 38 to 40, and undo and snapshots in the description: their boundary cases. */
 final class UndoBoundariesTest {
     private static final int INVALID = AdjustmentStack.INVALID_ARGUMENT;
@@ -47,18 +45,20 @@ final class UndoBoundariesTest {
         return x;
     }
 
-    /** After the call and undo() all is as it was, but that no tile is cached. */
+    /** Both rows of calls lead to the same state. */
+    private static void same(String calls, String others) {
+        String difference = Probe.difference(Probe.of(rich(calls)), Probe.of(rich(others)));
+        Check.holds(calls + " is as " + others + ": " + difference, difference.isEmpty());
+        difference = Probe.difference(Probe.ofMasks(rich(calls)), Probe.ofMasks(rich(others)));
+        Check.holds(calls + " leaves masks as " + others + ": " + difference, difference.isEmpty());
+    }
+
+    /** After the call and undo() all is as it was, but that no tile is cached; loadStack() needs a text, and empties it. */
     private static void everySavingCall() {
         Check.description("Undo: every call that saves the state that preceded it");
         for (String call : SAVING) {
-            boolean loading = call.equals("loadStack");
-            String before = loading ? "append 59, clearCache" : "clearCache";
-            AdjustmentStack x = rich(before);
-            Check.holds(call + " succeeds", Call.of(call).on(x) >= 0);
-            List<String> untouched = Probe.of(rich(loading ? before + ", clearText" : before));
-            Check.due("undo() of " + call, x.undo(), 3);
-            String changed = Probe.difference(Probe.of(x), untouched);
-            Check.holds("undo() of " + call + " restores all: " + changed, changed.isEmpty());
+            Check.due("undo() of " + call, rich("append 59, " + call).undo(), 3);
+            same("append 59, " + call + ", clearText, undo", "clearText, clearCache");
         }
     }
 
@@ -196,12 +196,8 @@ final class UndoBoundariesTest {
             Check.due("slot 0", x.save(0), i);
             Check.due("slot 1", x.save(1), i);
         }
-        x = rich("");
-        List<String> untouched = Probe.of(rich("save 0"));
-        Check.due("save(0) twice", x.save(0), 4);
-        Check.due("save(0) twice", x.save(0), 4);
-        String changed = Probe.difference(Probe.of(x), untouched);
-        Check.holds("to save twice is as to save once: " + changed, changed.isEmpty());
+        same("save 0, save 0", "save 0");
+        same("invertMask 0, save 0, undo, save 0", "clearCache, save 0");
         x = rich("");
         int tiles = x.cachedTiles(0) + x.cachedTiles(1) + x.cachedTiles(2);
         x.save(0);
@@ -247,13 +243,11 @@ final class UndoBoundariesTest {
     /** Whatever is done between, restore() brings back all that was saved, again and again. */
     private static void restoreOfEverything() {
         Check.promise(40, "restore");
-        List<String> untouched = Probe.of(rich("save 1, restore 1, append 59, clearText"));
         for (String call : SAVING) {
-            AdjustmentStack x = rich("append 59, save 1, " + call + ", clearText");
-            Check.due("restore(1) after " + call, x.restore(1), 4);
-            Call.makeAll(x, "invertMask 0, setBlend 1 1 1, restore 1");
-            String changed = Probe.difference(Probe.of(x), untouched);
-            Check.holds("restore(1) after " + call + " restores all: " + changed, changed.isEmpty());
+            String calls = "append 59, save 1, " + call + ", clearText";
+            Check.due("restore(1) after " + call, rich(calls).restore(1), 4);
+            same(calls + ", restore 1, addLayer 4 0 0, invertMask 0, setBlend 1 1 1, restore 1",
+                "save 1, restore 1, clearText");
         }
     }
 
