@@ -17,6 +17,7 @@ final class ImageBoundariesTest {
         cornersOfAReach();
         reachesAddUp();
         fewestAndMostRemovedTiles();
+        tilesFarFromTheCornersStay();
         rectanglesOnTheEdges();
         rectanglesOverTiles();
         sizes();
@@ -223,6 +224,38 @@ final class ImageBoundariesTest {
         x.prefetch(0);
         Check.due("the middle, reach 3", x.setPixel(7, 7, 0), 16);
         Check.due("none is dropped", x.counter(2), 0);
+    }
+
+    /** The reach of a layer ends at the edges: it does not come in again at the other side, or in another layer. */
+    private static void tilesFarFromTheCornersStay() {
+        Check.promise(3, "setPixel");
+        int[][] corners = {{0, 0}, {15, 0}, {0, 15}, {15, 15}};
+        for (int[] corner : corners) {
+            for (int prefetched = 0; prefetched <= 2; prefetched++) {
+                AdjustmentStack x = new AdjustmentStack();
+                Call.makeAll(x, "newImage 16 16, setTileSize 2, setCacheLimit 64, addLayer 4 0 0, addLayer 6 3 0, "
+                    + "addLayer 4 0 0");
+                for (int above = 0; above <= 2; above++) {
+                    if (above != prefetched) {
+                        x.setEnabled(above, 0);
+                    }
+                }
+                x.prefetch(prefetched);
+                int tiles = prefetched == 1 ? 4 : 1;
+                Check.due("tiles of layer " + prefetched, x.setPixel(corner[0], corner[1], 0), tiles);
+                Check.due("the others stay", x.cachedTiles(prefetched), 64 - tiles);
+            }
+            AdjustmentStack x = new AdjustmentStack();
+            Call.makeAll(x, "newImage 16 16, setTileSize 2, setCacheLimit 64, addLayer 4 0 0, addLayer 6 3 0, "
+                + "addLayer 4 0 0, prefetch 0");
+            Check.due("tiles of the bottom layer", x.setPixel(corner[0], corner[1], 0), 1);
+            Call.makeAll(x, "clearCache, addLayer 4 0 0, moveLayer 2 0");
+            for (int row = 0; row < 16; row += 2) {
+                x.pixel(1, 0, row);
+                x.pixel(1, 14, row);
+            }
+            Check.due("tiles of two lower layers", x.setPixel(corner[0], corner[1], 0), 2);
+        }
     }
 
     private static void rectanglesOnTheEdges() {

@@ -17,6 +17,7 @@ final class TilesBoundariesTest {
         changesThatRemoveAll();
         changesThatRemoveFromALayerOn();
         callsThatRemoveNothing();
+        everyPixelOfCachedTiles();
         pixelsAtTheEdges();
         pixelsOfLayersThatAreNotEnabled();
         prefetchFromNoneToAll();
@@ -230,6 +231,25 @@ final class TilesBoundariesTest {
         AdjustmentStack x = made("addLayer 4 0 0, addLayer 1 1 0, prefetch 1, append 120");
         Check.due("a text that is no stack", x.loadStack(), -10);
         Check.due("tiles after that", x.cachedTiles(0) + x.cachedTiles(1), 8);
+    }
+
+    /** Tiles keep their pixels apart: what is computed for one of them changes no other. */
+    private static void everyPixelOfCachedTiles() {
+        Check.promise(23, "pixel");
+        for (int side = 2; side <= 8; side++) {
+            AdjustmentStack x = made("newImage 16 16, setCacheLimit 64, addLayer 1 100 0, setMask 0 1 0 0 0 15, setTileSize "
+                + side + ", prefetch 0");
+            int computed = x.counter(0);
+            for (int row = 0; row < 16; row++) {
+                for (int column = 0; column < 16; column++) {
+                    int v = (17 * column + 29 * row) % 256;
+                    Check.due("pixel(0, " + column + ", " + row + ") in tiles of " + side, x.pixel(0, column, row),
+                        column == 0 ? Math.min(255, v + 100) : v);
+                }
+            }
+            Check.due("each tile is computed once", x.counter(0), computed);
+            Check.due("and found for each pixel", x.counter(1), 256);
+        }
     }
 
     private static void pixelsAtTheEdges() {

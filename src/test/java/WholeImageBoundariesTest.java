@@ -21,6 +21,7 @@ final class WholeImageBoundariesTest {
         slotsOfSnapshots();
         sizesOfSnapshots();
         fewestAndMostDifferentPixels();
+        afterAGreaterImage();
         cacheAndCountersStay();
         Check.end();
     }
@@ -253,6 +254,31 @@ final class WholeImageBoundariesTest {
         Check.due("all pixels of the base image", x.snapshotDifference(1), 256);
         Check.due("the slot stays", x.restore(1), 1);
         Check.due("its base image", x.sum(-1), 256 * 9);
+    }
+
+    /** Questions are about the pixels of the image, not about those of a greater one before it. */
+    private static void afterAGreaterImage() {
+        String[] questions = {"histogram 1 0 255", "sum 1", "effect 0", "strongestLayer", "exchangeDifference 0",
+            "snapshotDifference 0"};
+        String[] layers = {"fill 9 opacity 40; brightness 30;", "erode 3 mode difference; sharpen 2 300;"};
+        for (int i = 0; i < questions.length; i++) {
+            Check.promise(32 + i, "after a greater image");
+            for (String text : layers) {
+                AdjustmentStack x = made("newImage 16 16");
+                Check.load(x, text);
+                x.save(0);
+                for (String question : questions) {
+                    Call.of(question).on(x);
+                }
+                Call.makeAll(x, "invertMask 1, setBlend 0 7 50");
+                x.snapshotDifference(0);
+                Call.makeAll(x, "undo, undo, newImage 5 4, save 0, invertMask 1");
+                AdjustmentStack fresh = made("newImage 5 4");
+                Check.load(fresh, text);
+                Call.makeAll(fresh, "save 0, invertMask 1");
+                Check.due(questions[i] + " of " + text, Call.of(questions[i]).on(x), Call.of(questions[i]).on(fresh));
+            }
+        }
     }
 
     private static void cacheAndCountersStay() {
